@@ -137,7 +137,7 @@ public final class RoadCobblers {
             case 2: return trial.shire.shutIn();
             case 3: return trial.shire.day;
             case 4: return trial.wornAct;
-            default: return trial.wornRoad;
+            default: return trial.shire.firstWorn;
         }
     }
 
@@ -155,7 +155,7 @@ public final class RoadCobblers {
         int first = NONE;
         for (int a = 0; a < PLACES; a++) {
             for (int b = a + 1; b < PLACES; b++) {
-                if (shire.isOpen(a, b) && !holds(shire.reached(a, a, b), b)) {
+                if (shire.isOpen(a, b) && !holds(shire.reached(a, 1 << b), b)) {
                     count++;
                     if (first == NONE) first = nameOfRoad(a, b);
                 }
@@ -169,7 +169,7 @@ public final class RoadCobblers {
         int seenPlaces = 0;
         for (int place = 0; place < PLACES; place++) {
             if (!holds(seenPlaces, place)) {
-                int joined = shire.reached(place, NOWHERE, NOWHERE);
+                int joined = shire.reached(place, 0);
                 seenPlaces |= joined;
                 walks += walksWithin(joined);
             }
@@ -418,11 +418,11 @@ public final class RoadCobblers {
     }
 
     private static boolean isPlace(int place) {
-        return within(place, 0, PLACES - 1);
+        return place >= 0 && place < PLACES;
     }
 
     private static boolean isWalker(int walker) {
-        return within(walker, 0, WALKERS - 1);
+        return walker >= 0 && walker < WALKERS;
     }
 
     private static boolean areTwoPlaces(int a, int b) {
@@ -512,6 +512,8 @@ public final class RoadCobblers {
         private final int[] places = new int[WALKERS];
         private final int[] irons = new int[WALKERS];
         private int day = 0;
+        /** The first road that a walk here wore through; NONE. */
+        private int firstWorn = NONE;
 
         Shire() {
             Arrays.fill(roads, NONE);
@@ -523,6 +525,7 @@ public final class RoadCobblers {
             copy(other.places, places);
             copy(other.irons, irons);
             day = other.day;
+            firstWorn = NONE;
         }
 
         int roadBetween(int a, int b) {
@@ -569,21 +572,14 @@ public final class RoadCobblers {
             return sides / 2;
         }
 
-        /** The places joined to one by open roads, when that between a and b is left out. */
-        int reached(int from, int a, int b) {
-            int bits = 1 << from;
+        /** The places joined to one by open roads, if of its own roads those to some are left out. */
+        int reached(int from, int leftOut) {
+            int bits = 1 << from | openFrom(from) & ~leftOut;
             for (int round = 1; round < PLACES; round++) {
                 for (int place = 0; place < PLACES; place++) {
-                    if (holds(bits, place)) bits |= openBut(place, a, b);
+                    if (place != from && holds(bits, place)) bits |= openFrom(place);
                 }
             }
-            return bits;
-        }
-
-        private int openBut(int place, int a, int b) {
-            int bits = openFrom(place);
-            if (place == a) bits &= ~(1 << b);
-            if (place == b) bits &= ~(1 << a);
             return bits;
         }
 
@@ -628,8 +624,10 @@ public final class RoadCobblers {
             if (road == NONE) return NO_ROAD;
             if (road >= AWAY) return ROAD_AWAY;
             if (road >= WORN_THROUGH) return ROAD_WORN;
-            putRoad(from, place, Math.min(WORN_THROUGH, road + 1 + ironOf(walker)));
+            int worn = Math.min(WORN_THROUGH, road + 1 + ironOf(walker));
+            putRoad(from, place, worn);
             put(places, walker, place);
+            if (worn == WORN_THROUGH && firstWorn == NONE) firstWorn = nameOfRoad(from, place);
             return CAN_BE;
         }
 
@@ -728,7 +726,6 @@ public final class RoadCobblers {
         private int failedAct = NONE;
         private int reason = NONE;
         private int wornAct = NONE;
-        private int wornRoad = NONE;
 
         /** Takes the acts of a pad without a fault, up to the first that can not be. */
         void follow(Pad pad, Shire from) {
@@ -741,6 +738,7 @@ public final class RoadCobblers {
                     reason = why;
                     return;
                 }
+                if (wornAct == NONE && shire.firstWorn != NONE) wornAct = act;
                 acts++;
                 start += pad.actLength(start);
             }
@@ -752,7 +750,6 @@ public final class RoadCobblers {
             failedAct = NONE;
             reason = NONE;
             wornAct = NONE;
-            wornRoad = NONE;
         }
 
         private int take(Pad pad, int start) {
@@ -763,18 +760,7 @@ public final class RoadCobblers {
             if (sign == 'm') return shire.bringIn(a, b);
             if (sign == 'p') return shire.patch(a, b, pad.placeAt(start + 3), pad.placeAt(start + 4));
             if (pad.signAt(start + 1) == '^') return shire.changeIron(sign - 'A');
-            return walk(sign - 'A', a);
-        }
-
-        private int walk(int walker, int place) {
-            int from = shire.placeOf(walker);
-            int why = shire.walk(walker, place);
-            // a road that could be walked was not worn through before
-            if (why == CAN_BE && wornAct == NONE && shire.roadBetween(from, place) == WORN_THROUGH) {
-                wornAct = acts;
-                wornRoad = nameOfRoad(from, place);
-            }
-            return why;
+            return shire.walk(sign - 'A', a);
         }
 
         void followDraws(int seed, int m, Shire from) {
