@@ -426,7 +426,7 @@ public final class RoadCobblers {
     }
 
     private static boolean areTwoPlaces(int a, int b) {
-        return isPlace(a) && isPlace(b) && a != b;
+        return a >= 0 && a < PLACES && b >= 0 && b < PLACES && a != b;
     }
 
     private static int nameOfRoad(int a, int b) {
