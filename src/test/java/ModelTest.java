@@ -1,10 +1,13 @@
 /** Long runs of drawn calls, each held against the model; after each call all that told() tells is too, now and then. */
 public final class ModelTest {
     private static final int RUNS = 700;
+    /** What is told at the end of a run are some 220 calls more; together they stay under 512. */
+    private static final int CALLS = 280;
     private static long state = 20261119L;
     private static RoadCobblers x;
     private static Model y;
     private static String run = "";
+    private static int calls = 0;
 
     private static int draw(int n) {
         state = state * 6364136223846793005L + 1442695040888963407L;
@@ -25,6 +28,7 @@ public final class ModelTest {
     }
 
     private static void due(String call, long got, long want) {
+        calls++;
         Due.is(run + " " + call, got, want);
     }
 
@@ -222,11 +226,12 @@ public final class ModelTest {
             run = "run " + i + ":";
             x = new RoadCobblers();
             y = new Model();
+            calls = 0;
             int many = draw(36);
             for (int k = 0; k < many; k++) roads();
             int leaning = draw(4);
             int secret = draw(1000);
-            for (int k = 0; k < 60; k++) step(leaning, secret);
+            for (int k = 0; k < 60 && calls < CALLS; k++) step(leaning, secret);
             toldAll();
             judgeAll();
         }

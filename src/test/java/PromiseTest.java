@@ -205,13 +205,10 @@ public final class PromiseTest {
         due("7 judging changes nothing", x.told(0), 3);
     }
 
-    /** Sixty days, and so many more. */
+    /** A triangle so many days later. */
     private static RoadCobblers onDay(int day) {
         RoadCobblers x = triangle();
-        for (int d = 0; d < day; d++) {
-            saying(x, ".");
-            x.done();
-        }
+        for (int left = day; left > 0; left -= 60) saying(x, ".".repeat(Math.min(60, left))).done();
         return x;
     }
 
@@ -221,7 +218,9 @@ public final class PromiseTest {
         judged(onDay(99), ".", 0, 7);
         judged(onDay(99), "Abmbc.", 2, 7);
         due("7 the 99th", onDay(99).told(2), 99);
-        due("7 no 100th", onDay(100).told(2), 99);
+        RoadCobblers x = saying(onDay(99), ".");
+        due("7 no 100th", x.done(), NO);
+        due("7 it is the 99th still", x.told(2), 99);
     }
 
     private static void promise8() {
@@ -682,7 +681,7 @@ public final class PromiseTest {
         y.walker(1, 1, true);
         y.now.day = 99;
         y.now.roads.put("bc", "d3");
-        for (int seed = 0; seed < 200; seed++) {
+        for (int seed = 0; seed < 100; seed++) {
             for (int what = 0; what < 3; what++) due("23 last day", last.year(seed, 99, what), y.year(seed, 99, what));
         }
         int[][] wrong = {{10000, 1, 0}, {-1, 1, 0}, {0, 0, 0}, {0, 100, 0}, {0, 1, 3}, {0, 1, -1}};

@@ -1,15 +1,26 @@
 /** What hangs on the arguments alone, over all of them or many; and calls of any arguments, which must not throw. */
 public final class SweepTest {
-    private static final RoadCobblers X = new RoadCobblers();
+    private static RoadCobblers x = new RoadCobblers();
+    private static int calls = 0;
     private static final Model Y = new Model();
     private static final int[] ODD = {Integer.MIN_VALUE, -1000000007, -101, -7, -6, -5, -4, -3, -2, -1, 0, 1, 2, 3, 4, 5, 6, 8, 9,
         10, 16, 17, 20, 21, 34, 40, 60, 99, 100, 109, 188, 511, 512, 1000, 9999, 10000, 99999999, 999999999, Integer.MAX_VALUE};
 
+    /** An object for one call more; what it answers after 512 calls is free. */
+    private static RoadCobblers x() {
+        if (calls == 512) {
+            x = new RoadCobblers();
+            calls = 0;
+        }
+        calls++;
+        return x;
+    }
+
     private static void tacks() {
         for (int set = 1; set <= 511; set++) {
             for (int n = 0; n <= 99; n += set % 7 == 0 ? 1 : 13) {
-                Due.is("tacks(" + n + ", " + set + ", 0)", X.tacks(n, set, 0), Y.tacks(n, set, 0));
-                Due.is("tacks(" + n + ", " + set + ", 1)", X.tacks(n, set, 1), Y.tacks(n, set, 1));
+                Due.is("tacks(" + n + ", " + set + ", 0)", x().tacks(n, set, 0), Y.tacks(n, set, 0));
+                Due.is("tacks(" + n + ", " + set + ", 1)", x().tacks(n, set, 1), Y.tacks(n, set, 1));
             }
         }
     }
@@ -20,7 +31,7 @@ public final class SweepTest {
                 for (int g = 0; g <= 40; g++) {
                     for (int k = 0; k < 4; k++) {
                         Due.is("wet(" + n + ", " + t + ", " + g + ", " + k / 2 + ", " + k % 2 + ")",
-                            X.wet(n, t, g, k / 2, k % 2), Y.wet(n, t, g, k / 2, k % 2));
+                            x().wet(n, t, g, k / 2, k % 2), Y.wet(n, t, g, k / 2, k % 2));
                     }
                 }
             }
@@ -32,13 +43,13 @@ public final class SweepTest {
             int n = row % 2 == 0 ? 4 : 3 + row % 3;
             for (int k = 0; k < 2 * n; k++) {
                 Due.is("pays(" + row + ", " + n + ", " + k / 2 + ", " + k % 2 + ")",
-                    X.pays(row, n, k / 2, k % 2), Y.pays(row, n, k / 2, k % 2));
+                    x().pays(row, n, k / 2, k % 2), Y.pays(row, n, k / 2, k % 2));
             }
         }
         for (int row = 100000003; row < 1000000000; row += 7654321) {
             for (int k = 0; k < 18; k++) {
                 Due.is("pays(" + row + ", 9, " + k / 2 + ", " + k % 2 + ")",
-                    X.pays(row, 9, k / 2, k % 2), Y.pays(row, 9, k / 2, k % 2));
+                    x().pays(row, 9, k / 2, k % 2), Y.pays(row, 9, k / 2, k % 2));
             }
         }
     }
@@ -47,12 +58,12 @@ public final class SweepTest {
         for (int row = 0; row <= 10000; row++) {
             int n = Integer.toString(row).length();
             int h = 1 + row % 4;
-            Due.is("mended(" + row + ", " + n + ", " + h + ")", X.mended(row, n, h), Y.mended(row, n, h));
+            Due.is("mended(" + row + ", " + n + ", " + h + ")", x().mended(row, n, h), Y.mended(row, n, h));
         }
         for (int row = 11111111; row < 100000000; row += 1234567) {
-            for (int h = 1; h <= 3; h++) Due.is("mended(" + row + ", 8, " + h + ")", X.mended(row, 8, h), Y.mended(row, 8, h));
+            for (int h = 1; h <= 3; h++) Due.is("mended(" + row + ", 8, " + h + ")", x().mended(row, 8, h), Y.mended(row, 8, h));
         }
-        for (int row = 12345678; row < 100000000; row += 12345679) Due.is("mended(" + row + ", 8, 4)", X.mended(row, 8, 4), Y.mended(row, 8, 4));
+        for (int row = 12345678; row < 100000000; row += 12345679) Due.is("mended(" + row + ", 8, 4)", x().mended(row, 8, 4), Y.mended(row, 8, 4));
     }
 
     /** Whatever is asked, in whatever order, an answer comes; beyond 512 calls too. */
