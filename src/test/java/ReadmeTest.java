@@ -50,10 +50,10 @@ public final class ReadmeTest {
         return "public final class Example {\npublic static void run(java.util.List<long[]> answers) {\n" + lines + "}\n}\n";
     }
 
-    private static void example(String block) throws IOException, ReflectiveOperationException {
+    private static void example(String block, Path root) throws IOException, ReflectiveOperationException {
         blocks++;
         List<String> calls = new ArrayList<>();
-        Path folder = Files.createTempDirectory("readme");
+        Path folder = Files.createDirectories(root.resolve("build/ci/readme-" + blocks));
         Path file = folder.resolve("Example.java");
         Files.writeString(file, program(block, calls));
         String[] options = {"-Xlint:all", "-Werror", "-cp", System.getProperty("java.class.path"), "-d", folder.toString(), file.toString()};
@@ -114,7 +114,7 @@ public final class ReadmeTest {
     public static void main(String[] args) throws IOException, ReflectiveOperationException {
         Path file = Path.of(args[3]).toAbsolutePath();
         String page = Files.readString(file);
-        for (MatchResult block : all(BLOCK, page)) example(block.group(1));
+        for (MatchResult block : all(BLOCK, page)) example(block.group(1), file.getParent());
         Due.is("blocks, all of them tried", blocks, page.split("```java", -1).length - 1);
         Due.isTrue("examples stand there", blocks > 0);
         calls(page);
